@@ -55,7 +55,7 @@ public final class RandomRunsTest {
     }
 
     private void run() throws Exception {
-        for (int n = 0; n < 90; n++) {
+        for (int n = 0; n < 70; n++) {
             if (n == 2 || random.nextInt(45) == 0) {
                 loadText(n == 2 ? 0 : 1);
             }
