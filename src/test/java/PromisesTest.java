@@ -546,6 +546,14 @@ public final class PromisesTest {
         Checks.dueFine("hops", x, x.hops(0, 2, NONE, true), 2);
         TwoLeash y = Checks.loaded("way a 0 0 5 0 6 0;way b 0 0 1 5 1 6;");
         Checks.dueFine("hops are by their SHORTEST", y, y.hops(0, 1, NONE, false), 2);
+        // Six hops of the first one's walker, one of both, six of the other one's.
+        TwoLeash v = Checks.loaded("way a 0 0 1 0 0 0 1 0 0 0 1 0 0 0 10 0;way b 5 0 15 0 14 0 15 0 14 0 15 0 14 0 15 0;");
+        Checks.dueFine("the most hops", v, v.hops(0, 1, NONE, false), 13);
+        Checks.dueFine("behind six", v, v.hops(0, 1, 6, false), 6);
+        Checks.dueFine("behind six", v, v.hops(0, 1, 6, true), 0);
+        Checks.dueFine("behind seven", v, v.hops(0, 1, 7, true), 1);
+        Checks.dueFine("behind thirteen", v, v.hops(0, 1, 13, true), 7);
+        Checks.dueRefused("not so many", v, v.hops(0, 1, 14, true), 5);
         Checks.dueRefused("k -2", x, x.hops(0, 0, -2, false), 1);
         Checks.dueRefused("no way", x, x.hops(3, 0, 0, false), 2);
         Checks.dueRefused("one way twice", x, x.hops(0, 0, 0, false), 4);
@@ -667,6 +675,12 @@ public final class PromisesTest {
         Checks.dueRefused("alone", y, y.kin(0), 5);
         Checks.dueRefused("alone", y, y.middle(), 5);
         Checks.dueFine("alone", y, y.groups(NONE, 0, 1), 1);
+        TwoLeash u = Checks.loaded("way a 0 0 2 0;way b 0 0 1 1 2 0;way c 0 0 1 1 2 0;");
+        Checks.dueFine("the first of several", u, u.middle(), 0);
+        Checks.dueFine("kin by 0", u, u.kin(1), 2);
+        // c is 1 by 2 from both others, which are 1 from one another.
+        TwoLeash w = Checks.loaded("way a 0 0 1 0 1 1;way b 0 0 0 1 1 1;way c 0 0 1 1;");
+        Checks.dueFine("below 1", w, w.middle(), 2);
         TwoLeash z = Checks.loaded("way a 0 0 9 0;way b 0 3 9 3;way c 0 6 9 6;way d 0 3 9 3;");
         Checks.dueFine("the first of several", z, z.middle(), 1);
         Checks.dueFine("the first of several", z, z.kin(0), 1);

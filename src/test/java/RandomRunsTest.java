@@ -46,7 +46,7 @@ public final class RandomRunsTest {
         for (Method m : Oracle.class.getDeclaredMethods()) {
             ORACLE.put(m.getName(), m);
         }
-        int runs = args.length > 0 ? Integer.parseInt(args[0]) : 150;
+        int runs = args.length > 0 ? Integer.parseInt(args[0]) : 600;
         int from = args.length > 1 ? Integer.parseInt(args[1]) : 0;
         for (int seed = from; seed < from + runs; seed++) {
             new RandomRunsTest(seed).run();
