@@ -1,7 +1,7 @@
 /**
  * Two walkers on a leash: ways drawn by points, and the leashes by which two of them can be walked.
  *
- * Every answer is exact. A place on an edge is a root, kept as base + bend * sqrt(depth / bottom)
+ * Every answer is exact. A place on an edge is a root, kept as base + bend * sqrt(depth / below)
  * over the edge's square, and two places are compared by squares of whole numbers alone.
  * All rows are made by the constructor and used again, as what a run makes is counted.
  */
@@ -1313,7 +1313,7 @@ public final class TwoLeash {
             int left = signOf(apart * below, bend, depth * below);
             int right = other.depth == 0 ? 0 : (int) otherBend;
             if (left != right || left == 0) {
-                return Integer.compare(left, right);
+                return left - right;
             }
             // Of one sign: so their squares tell, where only one root is left.
             long squares = apart * apart * below + bend * bend * depth - otherBend * otherBend * other.depth;
@@ -1346,8 +1346,8 @@ public final class TwoLeash {
 
         /** The sign of whole + times * sqrt(under), without a rounding. */
         private static int signOf(long whole, long times, long under) {
-            int left = Long.signum(whole);
-            int right = under == 0 ? 0 : Long.signum(times);
+            int left = whole > 0 ? 1 : whole < 0 ? -1 : 0;
+            int right = under == 0 || times == 0 ? 0 : times > 0 ? 1 : -1;
             if (left == 0) {
                 return right;
             }
@@ -1355,15 +1355,13 @@ public final class TwoLeash {
                 return left;
             }
             // whole * whole against times * times * under, which a long can't hold: by quotient and rest.
-            long divisor = Math.abs(times);
-            if (divisor == 0) {
+            long divisor = right * times;
+            long size = left * whole;
+            if (divisor <= 0 || size / divisor > BEYOND_ROOTS) {
                 return left;
             }
-            long quotient = Math.abs(whole) / divisor;
-            long rest = Math.abs(whole) % divisor;
-            if (quotient > BEYOND_ROOTS) {
-                return left;
-            }
+            long quotient = size / divisor;
+            long rest = size % divisor;
             long gap = under - quotient * quotient;
             if (gap < 0) {
                 return left;
@@ -1371,7 +1369,8 @@ public final class TwoLeash {
             if (gap > 2 * quotient) {
                 return right;
             }
-            return left * Long.compare((2 * quotient * divisor + rest) * rest, gap * divisor * divisor);
+            long more = (2 * quotient * divisor + rest) * rest - gap * divisor * divisor;
+            return more > 0 ? left : more < 0 ? right : 0;
         }
     }
 
