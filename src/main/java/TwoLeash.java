@@ -157,7 +157,7 @@ public final class TwoLeash {
         if (!isPoint(way, i) || !isEdge(other, k)) {
             return deny(NO_SUCH);
         }
-        spareSide.lay(tracks[other], k, tracks[way], i);
+        spareSide.stretch(tracks[other], k, tracks[way], i);
         found.put(spareSide.leastAbove(), spareSide.leastBelow());
         return tell(found);
     }
@@ -738,7 +738,7 @@ public final class TwoLeash {
     private int findNearest(Track track, int i, Track other) {
         int nearestEdge = NONE;
         for (int k = 0; k + 1 < other.count; k++) {
-            spareSide.lay(other, k, track, i);
+            spareSide.stretch(other, k, track, i);
             if (nearestEdge == NONE || spareSide.isNearerThan(found)) {
                 nearestEdge = k;
                 found.put(spareSide.leastAbove(), spareSide.leastBelow());
@@ -1248,7 +1248,7 @@ public final class TwoLeash {
         /** The side, on the same EDGE, whose first FREE PLACE is LOW of this one; null if it is not REACHED. */
         private Side lowest = null;
 
-        void lay(Track edges, int edge, Track points, int point) {
+        void stretch(Track edges, int edge, Track points, int point) {
             long alongX = edges.xs[edge + 1] - edges.xs[edge];
             long alongY = edges.ys[edge + 1] - edges.ys[edge];
             long toX = points.xs[point] - edges.xs[edge];
@@ -1277,7 +1277,7 @@ public final class TwoLeash {
             return leastAbove() * fraction.below < fraction.above * leastBelow();
         }
 
-        void measure(long n, long d) {
+        void span(long n, long d) {
             below = d;
             depth = length * n - asideSquare * d;
             fromStart = startSquare * d <= n;
@@ -1417,7 +1417,7 @@ public final class TwoLeash {
                 int edge = ofFirst ? row : row - MOST_EDGES;
                 for (int point = 0; point < pointsBeside(row); point++) {
                     Side side = sides[row * MOST_POINTS + point];
-                    side.lay(ofFirst ? first : other, edge, ofFirst ? other : first, point);
+                    side.stretch(ofFirst ? first : other, edge, ofFirst ? other : first, point);
                 }
             }
         }
@@ -1426,7 +1426,7 @@ public final class TwoLeash {
         void measure(long n, long d) {
             for (int row = 0; row < ROWS; row++) {
                 for (int point = 0; point < pointsBeside(row); point++) {
-                    sides[row * MOST_POINTS + point].measure(n, d);
+                    sides[row * MOST_POINTS + point].span(n, d);
                 }
             }
             // On the rims POINTS that are near enough are FREE from PLACE 0 on, which is LOW.
