@@ -1,3 +1,6 @@
+import java.util.ArrayList;
+import java.util.List;
+
 /**
  * Sides of cells and leashes (promises 16 to 26): each sentence that names a boundary has a test of its own.
  * What is refused, and in which order, stands in StatusTest.
@@ -221,6 +224,9 @@ public final class LeashBoundariesTest {
         Checks.dueFine("LOW is ahead: 8", x, x.low(0, 1, false, 0, 2, 16, 1), 444);
         Checks.dueFine("it is FREE from 7 on", x, x.free(0, 1, false, 0, 2, 16, 1, 0), 388);
         Checks.dueFine("it is FREE later: 14", x, x.low(0, 1, false, 0, 3, 16, 1), 777);
+        TwoLeash z = Checks.loaded("way a 0 0 18 0;way b 0 0 5 0 3 0 18 0;");
+        Checks.dueFine("LOW is a little ahead of 0", z, z.low(0, 1, false, 0, 2, 24503, 1000), 2);
+        Checks.dueFine("it is FREE from 0 on", z, z.free(0, 1, false, 0, 2, 24503, 1000, 0), 0);
         TwoLeash y = Checks.loaded("way b 0 0 12 0 11 0 18 0 2 0 17 0;way a 0 0 18 0;");
         Checks.dueFine("LEFT: LOW is ahead", y, y.low(0, 1, true, 2, 0, 16, 1), 444);
         Checks.dueFine("LEFT: it is FREE later", y, y.low(0, 1, true, 3, 0, 16, 1), 777);
@@ -361,6 +367,7 @@ public final class LeashBoundariesTest {
         shortestIsTheMost();
         shortestOfEachKind();
         shortestIsEnoughAndLessIsNot();
+        shortestIsNoMoreThanHops();
     }
 
     /** 0 by 1, by all KINDS. */
@@ -404,6 +411,15 @@ public final class LeashBoundariesTest {
         Checks.dueFine("not quite", x, x.enough(2, 3, 0, 94248, 613), 0);
     }
 
+    /** A POINT whose nearest PLACE is a POINT: WALK needs just what HOPS do, and more than both ends. */
+    private static void shortestIsNoMoreThanHops() {
+        TwoLeash x = Checks.loaded("way a 0 0 4 4 8 0;way b 0 0 4 8 8 0;");
+        for (int kind = 0; kind < 3; kind++) {
+            Checks.dueFraction("KIND " + kind, x, x.shortest(0, 1, kind), 16, 1);
+            Checks.dueFraction("KIND " + kind, x, x.shortest(1, 0, kind), 16, 1);
+        }
+    }
+
     // ---- promises 21 and 22
 
     private static void criticals() {
@@ -417,6 +433,9 @@ public final class LeashBoundariesTest {
         pointsAlike();
         criticalsBelowShortest();
         lastOfCriticals();
+        greatestCritical();
+        mostCriticals();
+        criticalsOfOtherWays();
     }
 
     private static void dueCriticals(String text, long... tops) {
@@ -515,6 +534,53 @@ public final class LeashBoundariesTest {
             x.critical(0, 1, below);
             Checks.dueFraction("SHORTEST is one of them", x, x.shortest(0, 1, kind), x.top(), x.bottom());
         }
+    }
+
+    /** 648: the SQUARE of two corners. */
+    private static void greatestCritical() {
+        dueCriticals("way a 0 0 0 1;way b 18 18 17 18;", by(578, 1), by(613, 1), by(648, 1));
+        dueCriticals("way a 0 1 0 0;way b 17 18 18 18;", by(578, 1), by(613, 1), by(648, 1));
+    }
+
+    /** Both ends, 112 POINTS with EDGES, 392 two POINTS with EDGES: all of them unlike. */
+    private static void mostCriticals() {
+        String one = "1 14 16 3 1 13 15 7 1 10 15 6 2 16 15 8";
+        String two = "10 1 7 18 8 1 9 17 11 1 6 18 7 1 5 18";
+        String text = "way a " + one + ";way b " + two + ";";
+        List<Oracle.Q> due = new ArrayList<>(Oracle.allCriticals(wayOf(one), wayOf(two)));
+        TwoLeash x = Checks.loaded(text);
+        Checks.due("the oracle's", due.size(), 506);
+        Checks.dueFine("all", x, x.criticals(0, 1, NONE), 506);
+        Checks.dueFine("all, turned about", x, x.criticals(1, 0, NONE), 506);
+        Checks.dueRefused("no more", x, x.critical(0, 1, 506), 5);
+        for (int k = 0; k < 506; k++) {
+            x = k % 100 == 0 ? Checks.loaded(text) : x;
+            Oracle.Q q = due.get(k);
+            Checks.dueFraction("the " + k + "-th", x, x.critical(0, 1, k), q.n().longValue(), q.d().longValue());
+        }
+    }
+
+    private static Oracle.Way wayOf(String numbers) {
+        Oracle.Way way = new Oracle.Way("");
+        String[] each = numbers.split(" ");
+        for (int i = 0; i < each.length; i += 2) {
+            way.points.add(new Oracle.P(Integer.parseInt(each[i]), Integer.parseInt(each[i + 1])));
+        }
+        return way;
+    }
+
+    /** What was asked ahead is forgotten: of other WAYS, of WAYS that were moved. */
+    private static void criticalsOfOtherWays() {
+        TwoLeash x = Checks.loaded("way a 0 0 4 0;way b 0 1 0 3;way c 2 1 2 3;");
+        Checks.dueFine("a and b", x, x.criticals(0, 1, NONE), 4);
+        Checks.dueFine("a and c", x, x.criticals(0, 2, NONE), 4);
+        Checks.dueFraction("a and c", x, x.critical(0, 2, 1), 5, 1);
+        Checks.dueFraction("a and b", x, x.critical(0, 1, 2), 17, 1);
+        x.move(1, 1, 0, 4);
+        Checks.dueFine("b moved", x, x.criticals(0, 1, NONE), 4);
+        Checks.dueFraction("b moved", x, x.critical(0, 1, 1), 16, 1);
+        x.shortest(0, 2, 0);
+        Checks.dueFraction("b moved", x, x.critical(0, 1, 3), 32, 1);
     }
 
     // ---- promise 23

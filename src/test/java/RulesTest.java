@@ -102,8 +102,18 @@ public final class RulesTest {
             for (Field field : inside.getDeclaredFields()) {
                 Checks.due("static is final " + field, !isChangingStatic(field), true);
             }
+            Checks.due("fields of " + inside, fieldsOf(inside) <= 20, true);
         }
+        Checks.due("fields", fieldsOf(TwoLeash.class) <= 20, true);
         Checks.due("classes", classes <= 12, true);
+    }
+
+    private static int fieldsOf(Class<?> type) {
+        int fields = 0;
+        for (Field field : type.getDeclaredFields()) {
+            fields += Modifier.isStatic(field.getModifiers()) ? 0 : 1;
+        }
+        return fields;
     }
 
     private static boolean isChangingStatic(Field field) {

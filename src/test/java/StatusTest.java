@@ -265,6 +265,7 @@ public final class StatusTest {
 
     private static void dueFine(String name, Object[] given) throws Exception {
         TwoLeash x = readied();
+        x.many(3);
         Checks.due(shown(name, given) + " is no refusal", call(x, name, given) >= 0, true);
         Checks.due("status of " + shown(name, given), x.status(), 0);
     }

@@ -95,6 +95,9 @@ public final class WaysBoundariesTest {
         Checks.dueFraction("36 by 20", x, x.near(1, 2, 0, 0), 9, 5);
         // a cross of 6 over a square of 72
         Checks.dueFraction("36 by 72", x, x.near(3, 0, 2, 0), 1, 2);
+        TwoLeash y = Checks.loaded("way a 0 0 3 1;way b 1 1 2 1;");
+        Checks.dueFraction("4 by 10", y, y.near(1, 0, 0, 0), 2, 5);
+        Checks.dueFraction("1 by 10", y, y.near(1, 1, 0, 0), 1, 10);
     }
 
     /** "0 is 0 by 1." */
@@ -281,6 +284,7 @@ public final class WaysBoundariesTest {
     private static void meets() {
         placesInCommonAtEnds();
         placesInCommonOnOneLine();
+        placesInCommonAnyWayRound();
         crossingNeedsBothSidesOfBoth();
         oneWayTwiceWithoutNeighbours();
         mostMeetings();
@@ -310,12 +314,42 @@ public final class WaysBoundariesTest {
         Checks.dueFine("apart on a flat line", y, y.meets(0, 3, 0), 0);
     }
 
+    /** An EDGE in each direction; another one ends ahead of it, at both its ends, within it, behind it. */
+    private static void placesInCommonAnyWayRound() {
+        int[][] along = {{1, 0}, {-1, 0}, {0, 1}, {0, -1}, {1, 1}, {1, -1}, {-1, 1}, {-1, -1}};
+        for (int[] v : along) {
+            for (int at = -1; at <= 3; at++) {
+                int x = 9 + at * v[0];
+                int y = 9 + at * v[1];
+                String aside = " " + (x - 3 * v[1]) + " " + (y + 3 * v[0]);
+                String onward = " " + (x + (at > 0 ? 4 : -4) * v[0]) + " " + (y + (at > 0 ? 4 : -4) * v[1]);
+                String edge = "way a 9 9 " + (9 + 2 * v[0]) + " " + (9 + 2 * v[1]) + ";";
+                dueMeeting(edge + "way b " + x + " " + y + aside + ";", at >= 0 && at <= 2);
+                dueMeeting(edge + "way b " + x + " " + y + onward + ";", at >= 0 && at <= 2);
+            }
+        }
+    }
+
+    private static void dueMeeting(String text, boolean due) {
+        TwoLeash x = Checks.loaded(text);
+        for (int turns = 0; turns < 4; turns++) {
+            Checks.dueFine("meeting of " + text, x, x.meets(0, 1, 0), due ? 1 : 0);
+            Checks.dueFine("turned about, of " + text, x, x.meets(1, 0, 0), due ? 1 : 0);
+            Checks.dueFine("no crossing of " + text, x, x.meets(0, 1, 1) + x.meets(1, 0, 1), 0);
+            x.turn(turns % 2);
+        }
+    }
+
     /** "Cross: the ends of each lie on both sides of the other one": an end on the other one is no crossing. */
     private static void crossingNeedsBothSidesOfBoth() {
         TwoLeash x = Checks.loaded("way a 0 4 8 4;way b 4 0 4 8;way c 4 4 4 8;way d 9 0 9 8;");
         Checks.dueFine("crossing", x, x.meets(0, 1, 1), 1);
         Checks.dueFine("crossing, turned about", x, x.meets(1, 0, 1), 1);
         Checks.dueFine("beginning on it", x, x.meets(0, 2, 1), 0);
+        Checks.dueFine("beginning on it, turned about", x, x.meets(2, 0, 1), 0);
+        x.turn(2);
+        Checks.dueFine("ending on it", x, x.meets(0, 2, 1), 0);
+        Checks.dueFine("ending on it, turned about", x, x.meets(2, 0, 1), 0);
         Checks.dueFine("both sides of one alone", x, x.meets(0, 3, 1), 0);
         Checks.dueFine("both sides of one alone, turned about", x, x.meets(3, 0, 1), 0);
         TwoLeash y = Checks.loaded("way a 0 0 8 0;way b 2 5 4 0 6 5;");
@@ -350,6 +384,7 @@ public final class WaysBoundariesTest {
     private static void bends() {
         bendsBetweenFirstAndLast();
         straightOnAndStraightBack();
+        bendsInEachDirection();
     }
 
     /** "At how many POINTS between the first and the last": none of two, one of three, six of eight. */
@@ -378,6 +413,25 @@ public final class WaysBoundariesTest {
         Checks.dueFine("a little left", x, x.bends(3, 0), 1);
     }
 
+    /** A step in each direction, and behind it one on, back, to the left, to the right, by one and by two. */
+    private static void bendsInEachDirection() {
+        int[][] along = {{1, 0}, {-1, 0}, {0, 1}, {0, -1}, {1, 1}, {1, -1}, {-1, 1}, {-1, -1}};
+        for (int[] v : along) {
+            int[][] next = {{-v[1], v[0]}, {v[1], -v[0]}, {v[0], v[1]}, {-v[0], -v[1]}};
+            for (int what = 0; what < 4; what++) {
+                for (int by = 1; by <= 2; by++) {
+                    int x = 9 + v[0] + by * next[what][0];
+                    int y = 9 + v[1] + by * next[what][1];
+                    String text = "way a 9 9 " + (9 + v[0]) + " " + (9 + v[1]) + " " + x + " " + y + ";";
+                    TwoLeash z = Checks.loaded(text);
+                    for (int other = 0; other < 4; other++) {
+                        Checks.dueFine("bends " + other + " of " + text, z, z.bends(0, other), other == what ? 1 : 0);
+                    }
+                }
+            }
+        }
+    }
+
     // ---- promises 27 to 29
 
     private static void pieces() {
@@ -389,6 +443,7 @@ public final class WaysBoundariesTest {
     /** "PIECE: its POINTS i to k (i below k)": of two POINTS there is but one. */
     private static void pieceOfTwoPoints() {
         TwoLeash x = Checks.loaded("way a 0 0 9 0 0 0;way b 9 9 0 9;");
+        Checks.dueFraction("its SHORTEST, asked first", x, x.pieces(0, 1), 162, 1);
         Checks.dueFine("i", x, x.piece(0, 1, 0), 0);
         Checks.dueFine("k", x, x.piece(0, 1, 1), 1);
         Checks.dueFraction("its SHORTEST", x, x.pieces(0, 1), 162, 1);
@@ -550,6 +605,9 @@ public final class WaysBoundariesTest {
         Checks.dueFine("the last", z, z.middle(), 2);
         TwoLeash u = Checks.loaded("way a 0 0 9 0;way b 0 0 9 0;way c 0 0 9 0;");
         Checks.dueFine("all alike", u, u.middle(), 0);
+        // the last is 1 by 2 from both others, which are 1 from one another
+        TwoLeash w = Checks.loaded("way a 0 0 1 0 1 1;way b 0 0 0 1 1 1;way c 0 0 1 1;");
+        Checks.dueFine("below 1", w, w.middle(), 2);
         TwoLeash v = Checks.loaded("way a 0 0 9 0;");
         Checks.dueRefused("one", v, v.middle(), 5);
         v.load(0);
