@@ -1,3 +1,5 @@
+import java.lang.reflect.InvocationTargetException;
+import java.lang.reflect.Method;
 import java.nio.charset.StandardCharsets;
 
 /** What the tests share: counting wrong answers, and feeding a text to an object. */
@@ -45,6 +47,32 @@ final class Checks {
     static void dueFine(String call, TwoLeash x, int got, int want) {
         due(call, got, want);
         due(call + " status", x.status(), 0);
+    }
+
+    /** The answer of a call told as a text, as "near(0, 1, 1, 0)"; true counts 1, false 0. */
+    static long call(TwoLeash x, String told) {
+        int open = told.indexOf('(');
+        String[] numbers = told.substring(open + 1, told.length() - 1).split(", *");
+        for (Method method : TwoLeash.class.getDeclaredMethods()) {
+            if (method.getName().equals(told.substring(0, open))) {
+                Object[] given = new Object[method.getParameterCount()];
+                for (int i = 0; i < given.length; i++) {
+                    boolean truth = method.getParameterTypes()[i] == boolean.class;
+                    given[i] = truth ? Boolean.valueOf(numbers[i]) : Integer.valueOf(numbers[i]);
+                }
+                return answer(x, method, given);
+            }
+        }
+        throw new IllegalArgumentException(told);
+    }
+
+    private static long answer(TwoLeash x, Method method, Object[] given) {
+        try {
+            Object got = method.invoke(x, given);
+            return got instanceof Boolean truth ? (truth ? 1 : 0) : ((Number) got).longValue();
+        } catch (IllegalAccessException | InvocationTargetException fault) {
+            throw new IllegalStateException(fault);
+        }
     }
 
     /** The bytes of a text, in feeds of twenty with blanks behind. */
